@@ -273,8 +273,9 @@ public final class MountainFarms {
             parts.weigh(here.mountain);
             parts.see(here.mountain, sign);
             long all = parts.all();
-            if (all > 0 && 1000 * parts.rows[ERUPTING] / all > most) {
-                most = 1000 * parts.rows[ERUPTING] / all;
+            long share = all > 0 ? 1000 * parts.rows[ERUPTING] / all : -1;
+            if (share > most) {
+                most = share;
                 worst = sign;
             }
         }

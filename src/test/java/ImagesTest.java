@@ -9,6 +9,7 @@ public final class ImagesTest {
         keptLatest();
         keptStays();
         tear();
+        newFarmBehindUndo();
         count();
         status();
         findingsChangeNothing();
@@ -135,6 +136,23 @@ public final class ImagesTest {
         due.is("tear: what is stays", x.now(2), 2);
         x.image();
         due.is("tear: keeps anew", x.undo(), 0);
+    }
+
+    /** A farm that comes where one was taken back has nothing of that one. */
+    private static void newFarmBehindUndo() {
+        MountainFarms x = new MountainFarms();
+        x.image();
+        x.farm(5, 14, 5);
+        x.farm(5, 0, 5);
+        x.months(12);
+        due.is("undo: burnt", x.of(0, 4), 1);
+        due.is("undo: earned", x.of(1, 3), 20);
+        x.undo();
+        due.is("undo: the cell is free", x.farm(1, 14, 2), 0);
+        due.is("undo: the other one, too", x.farm(1, 0, 2), 1);
+        due.is("undo: not burnt", x.of(0, 4), 0);
+        due.is("undo: no coins", x.of(1, 3), 0);
+        due.is("undo: none burnt", x.count(1), 0);
     }
 
     private static void count() {

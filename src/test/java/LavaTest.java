@@ -8,6 +8,7 @@ public final class LavaTest {
         flow();
         flowByWays();
         flowPilesUp();
+        flowStaysOnTheSlope();
         hit();
         least();
         leastUpTo99();
@@ -71,6 +72,26 @@ public final class LavaTest {
         due.is("flow: not to the same height", x.flow(0, 1), Due.setOf(0));
         due.is("flow: not to the same height", x.flow(0, 2), Due.setOf(0));
         due.is("flow: over the side", x.flow(0, 3), Due.setOf(0, 1));
+    }
+
+    /** From each cell lava goes just to the cells beside, also at the slope's edges. */
+    private static void flowStaysOnTheSlope() {
+        MountainFarms x = new MountainFarms();
+        for (int cell = 0; cell < 36; cell++) {
+            x.set(cell, 0, 50);
+        }
+        for (int low = 0; low < 36; low++) {
+            x.set(low, 0, 0);
+            for (int from : new int[] {low - 6, low - 1, low + 1, low + 6, 0, 5, 30, 35}) {
+                boolean beside = from >= 0 && from < 36
+                    && Math.abs(from / 6 - low / 6) + Math.abs(from % 6 - low % 6) == 1;
+                if (from >= 0 && from < 36) {
+                    due.is("flow: from " + from + " to " + low, x.flow(from, 2),
+                        beside ? Due.setOf(from, low) : Due.setOf(from));
+                }
+            }
+            x.set(low, 0, 50);
+        }
     }
 
     private static void hit() {
@@ -191,6 +212,22 @@ public final class LavaTest {
         MountainFarms y = new MountainFarms();
         y.farm(0, 14, 0);
         due.is("save: not at the vent", y.save(99), Due.NONE);
+        saveAtTheCorners();
+    }
+
+    private static void saveAtTheCorners() {
+        int[][] corners = {{1, 0, 1}, {6, 0, 6}, {0, 1, 1}, {0, 6, 6}, {34, 35, 3435}, {29, 35, 2935}};
+        for (int[] c : corners) {
+            MountainFarms x = new MountainFarms();
+            x.vent(c[0]);
+            x.set(c[0], 0, 60);
+            x.set(c[1], 0, 1);
+            x.farm(0, c[1], 0);
+            due.is("save: from " + c[0] + " to " + c[1], x.save(2), c[2]);
+            due.is("save: turned away", x.turnsOn(c[1], c[0], 2), 0);
+            x.wall(c[0], c[1], true);
+            due.is("save: saved", x.hit(2), 0);
+        }
     }
 
     private static void saveOfSeveral() {

@@ -97,6 +97,13 @@ public final class MonthsTest {
         due.is("months: height where it piled up", x.cellOf(11, 0), 33);
         due.is("months: height where it went on", x.cellOf(8, 0), 45);
         due.is("months(20)", x.months(20), 1);
+        x = new MountainFarms();
+        x.vent(0);
+        x.volume(1);
+        Due.makeItComeOut(x);
+        x.months(1);
+        due.is("months: age of the first cell", x.cellOf(0, 1), 0);
+        due.is("months: age of the next one", x.cellOf(1, 1), 20);
     }
 
     private static void year() {
@@ -270,6 +277,17 @@ public final class MonthsTest {
         Due.makeItComeOut(x);
         due.is("out: it stays out", x.out(), Due.NONE);
         due.is("out: told", x.status(3), 1);
+        // With these tenths the draws of z 912 let it come out in month 240 first, those of z 374 in month 241.
+        x = new MountainFarms();
+        x.tenths(0, 0, 9, 1, 0);
+        x.tenths(0, 1, 9, 0, 1);
+        x.tenths(0, 2, 9, 0, 0);
+        x.seed(912);
+        due.is("out: in 240 months", x.out(), 240);
+        x.seed(374);
+        due.is("out: not in 241", x.out(), Due.NONE);
+        x.months(1);
+        due.is("out: then in 240", x.out(), 240);
     }
 
     private static void on() {
@@ -327,6 +345,8 @@ public final class MonthsTest {
         x.set(0, 1, 0);
         due.is("crop: on new ground", x.crop(12), 4);
         due.is("crop: when it's older", x.crop(240), 2);
+        x.months(11);
+        due.is("crop: in one month", x.crop(1), 4);
         due.is("crop(0)", x.crop(0), Due.BEYOND);
         due.is("crop(241)", x.crop(241), Due.BEYOND);
         due.is("crop(-1)", x.crop(-1), Due.BEYOND);

@@ -181,5 +181,15 @@ public final class MountainTest {
         due.is("dread: cut", x.dread(), 0);
         x.tenths(1, 3, 3, 2, 2);
         due.is("dread: cut", x.dread(), 3);
+        // Just by thousandths: 999 or 1001 times would make other signs greatest.
+        x.tenths(1, 3, 6, 2, 1);
+        x.tenths(1, 0, 6, 1, 0);
+        due.is("dread: cut by thousandths", x.dread(), 2);
+        x.burn();
+        x.sees(1);
+        x.sees(1);
+        x.tenths(1, 3, 2, 2, 6);
+        x.tenths(1, 0, 10, 0, 0);
+        due.is("dread: cut by thousandths", x.dread(), 0);
     }
 }

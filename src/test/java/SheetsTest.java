@@ -22,8 +22,10 @@ public final class SheetsTest {
         due.is("sheet: 64 bits", x.sheet(1, 64, 0), 0);
         due.is("sheet: 0 numbers are not missing", x.write(1, 0, 1), Due.BEYOND);
         x.write(0, 39, 5);
+        x.write(0, 0, 5);
         due.is("sheet: anew", x.sheet(0, 8, 40), 40);
         due.is("sheet: all 0", x.write(0, 39, 5), 0);
+        due.is("sheet: all 0", x.write(0, 0, 5), 0);
         due.is("sheet: missing", x.sheet(0, 0, 40), 0);
         due.is("sheet: missing", x.write(0, 0, 0), Due.MISSING);
         due.is("sheet: missing stays so", x.sheet(0, 0, 0), 0);

@@ -160,6 +160,10 @@ public final class SlopeTest {
                 walls++;
             }
         }
+        for (int cell = 0; cell < 30; cell++) {
+            due.is("wall: away under " + cell, x.wall(cell, cell + 6, false), 1);
+            due.is("wall: back under " + cell, x.wall(cell, cell + 6, true), 1);
+        }
         due.is("wall: all of them", x.count(2), walls);
         due.is("wall: all of them", x.count(2), 60);
         due.is("wall: corner", x.cellOf(0, 3), 2 + 4);

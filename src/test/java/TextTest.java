@@ -164,6 +164,11 @@ public final class TextTest {
         isSlope("owner 1", -1);
         isSlope("fire at 1", -1);
         isSlope("far at 1", -1);
+        isSlope("xarm at 1", -1);
+        isSlope("went 1", -1);
+        isSlope("ventz 1", -1);
+        isSlope("vena 1", -1);
+        isSlope("farm xt 1", -6);
         isSlope("farms at 1", -1);
         isSlope("old vines at 1", -1);
         isSlope("5", -1);
@@ -193,6 +198,10 @@ public final class TextTest {
         isSlope("farm at 1 owner 5", 1);
         isSlope("farm at 1 owner 6", -17);
         isSlope("wall 35 34", 1);
+        isSlope("wall 34 35", 1);
+        isSlope("wall 6 0", 1);
+        isSlope("wall 0 1", 1);
+        isSlope("wall 0 6", 1);
         isSlope("wall 36 35", -6);
         isSlope("wall 35 36", -9);
         isSlope("wall 5 6", -8);
