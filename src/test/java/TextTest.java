@@ -18,6 +18,7 @@ public final class TextTest {
         thirteenthFarm();
         faultChangesNothing();
         longText();
+        shorterText();
         due.end();
     }
 
@@ -291,6 +292,22 @@ public final class TextTest {
         due.is("fault: inside the diary", Due.slope(x, "sees 0 0 0 4"), -12);
         due.is("fault: diary", x.count(4), 1);
         due.is("fault: diary", x.weight(0), 70);
+    }
+
+    /** What an earlier text left behind the end isn't read. */
+    private static void shorterText() {
+        MountainFarms x = new MountainFarms();
+        due.is("slope: longer", Due.slope(x, "vent 35"), 1);
+        due.is("slope: shorter by a digit", Due.slope(x, "vent 3"), 1);
+        due.is("slope: the digit is gone", x.now(2), 3);
+        due.is("slope: shorter by letters", Due.slope(x, "ven"), -1);
+        due.is("slope: shorter by a number", Due.slope(x, "vent"), -5);
+        Due.feed(x, "vent 2 vent 2");
+        x.wipe();
+        due.is("slope: behind wipe()", Due.slope(x, "vent 2"), 1);
+        isSlope("7".repeat(120), -1);
+        isSlope("z".repeat(120), -1);
+        isSlope("age 0 " + "0".repeat(113) + "9", 1);
     }
 
     private static void longText() {
