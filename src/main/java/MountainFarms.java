@@ -164,7 +164,7 @@ public final class MountainFarms {
         if (!here.farms.has(farm)) {
             return finding(BEYOND);
         }
-        int age = here.ground.ages[here.farms.cells[farm]];
+        int age = here.ground.ageOf(here.farms.cells[farm]);
         int best = 0;
         for (int kind = 1; kind < KINDS; kind++) {
             if (bearing(kind, age, here.ground.ash) > bearing(best, age, here.ground.ash)) {
@@ -180,7 +180,7 @@ public final class MountainFarms {
         }
         int sum = 0;
         for (int year = 0; year < n; year++) {
-            int age = Math.min(MOST, here.ground.ages[cell] + year);
+            int age = Math.min(MOST, here.ground.ageOf(cell) + year);
             int ash = Math.min(MOST, here.ground.ash + year);
             sum += bearing(kind, age, ash);
         }
@@ -767,6 +767,10 @@ public final class MountainFarms {
             ash = other.ash;
         }
 
+        int ageOf(int cell) {
+            return isCell(cell) ? ages[cell] : 0;
+        }
+
         boolean isWalled(int cell, int way) {
             return cell >= 0 && cell < CELLS && (walls[cell] >> way & 1) == 1;
         }
@@ -908,7 +912,7 @@ public final class MountainFarms {
         }
 
         int bearsOn(int farm, Ground ground) {
-            return isBurnt(farm) ? 0 : bearing(kinds[farm], ground.ages[cells[farm]], ground.ash);
+            return isBurnt(farm) ? 0 : bearing(kinds[farm], ground.ageOf(cells[farm]), ground.ash);
         }
 
         void earnOn(Ground ground) {

@@ -1,8 +1,5 @@
-import java.lang.reflect.Method;
 import java.util.ArrayList;
-import java.util.LinkedHashMap;
 import java.util.List;
-import java.util.Map;
 
 /**
  * Drawn runs of calls on the program and on Model side by side: every answer must be the same, and at the end of a
@@ -37,7 +34,6 @@ public final class ModelTest {
         {"image"}, {"undo"}, {"tear"}, {"count", "0-5"}, {"count", "0-5"}, {"status", "-1-6"}};
 
     private static final Due due = new Due("ModelTest");
-    private static final Map<String, Method> METHODS = new LinkedHashMap<>();
 
     private long drawn;
     private MountainFarms x;
@@ -46,9 +42,6 @@ public final class ModelTest {
     private boolean isWrong = false;
 
     public static void main(String[] args) throws Exception {
-        for (Method m : MountainFarms.class.getDeclaredMethods()) {
-            METHODS.put(m.getName(), m);
-        }
         for (int run = 0; run < RUNS; run++) {
             new ModelTest().go(run);
         }
@@ -268,19 +261,11 @@ public final class ModelTest {
         if (isWrong) {
             return;
         }
-        Method m = METHODS.get(name);
-        Object[] given = new Object[args.length];
-        StringBuilder text = new StringBuilder(name).append('(');
-        for (int i = 0; i < args.length; i++) {
-            Class<?> type = m.getParameterTypes()[i];
-            given[i] = type == long.class ? (Object) args[i] : type == int.class ? (Object) (int) args[i] : args[i] == 1;
-            text.append(i == 0 ? "" : ", ").append(given[i]);
-        }
-        text.append(')');
-        long got = ((Number) m.invoke(x, given)).longValue();
+        String text = Calls.text(name, args);
+        long got = Calls.call(x, name, args);
         long want = model.call(name, args);
         told.add(text + " = " + got);
-        due.is(text.toString(), got, want);
+        due.is(text, got, want);
         if (got != want) {
             isWrong = true;
             System.out.println("the run: " + String.join("; ", told));
